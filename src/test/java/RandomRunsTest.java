@@ -1,0 +1,200 @@
+import java.util.ArrayList;
+import java.util.List;
+import java.util.Random;
+
+/** Long runs of calls, made from fixed seeds, on the class and on the model: every answer must be the same. */
+public final class RandomRunsTest {
+    private static final int MOST_CALLS = 512;
+
+    private final Random random;
+    private final Calls lodger = new Calls(new MeshLodger());
+    private final Calls model = new Calls(new MeshModel());
+    private final List<String> calls = new ArrayList<>();
+    private String fault = "";
+    private final int nodeRoom;
+    private final int linkRoom;
+    private final int need;
+    private final int wrongOf;
+    private int nodes;
+    private int links;
+    private int requests;
+
+    private RandomRunsTest(long seed) {
+        random = new Random(seed);
+        nodeRoom = pick(10, 25, 40, 99);
+        linkRoom = pick(8, 14, 25, 60, 99);
+        need = pick(4, 9, 14, 20);
+        wrongOf = pick(4, 12, 30, 1000);
+    }
+
+    public static void main(String[] args) {
+        int runs = args.length > 0 ? Integer.parseInt(args[0]) : 4000;
+        long first = args.length > 1 ? Long.parseLong(args[1]) : 0;
+        int wrong = 0;
+        for (long seed = first; seed < first + runs && wrong < 5; seed++) {
+            RandomRunsTest run = new RandomRunsTest(seed);
+            run.go();
+            if (!run.fault.isEmpty()) {
+                wrong++;
+                System.out.println("seed " + seed + ": " + run.fault + "\n  after " + run.calls);
+            }
+        }
+        System.out.println(wrong == 0 ? runs + " random runs are as the model has them" : wrong + " runs differ");
+        System.exit(wrong == 0 ? 0 : 1);
+    }
+
+    private int pick(int... choices) {
+        return choices[random.nextInt(choices.length)];
+    }
+
+    private int from(int low, int high) {
+        return low + random.nextInt(Math.max(1, high - low + 1));
+    }
+
+    /** A number of the range, at times one that may be beside it or far from it. */
+    private int number(int low, int high) {
+        if (random.nextInt(wrongOf) != 0) {
+            return from(low, high);
+        }
+        return pick(low - 1, low, high, high + 1, from(low - 3, high + 3), Integer.MIN_VALUE, Integer.MAX_VALUE);
+    }
+
+    private String same(String name, Object... arguments) {
+        if (calls.size() >= MOST_CALLS || !fault.isEmpty()) {
+            return "";
+        }
+        String due = model.answer(name, arguments);
+        String got = lodger.answer(name, arguments);
+        String call = Calls.written(name, arguments);
+        calls.add(call + "=" + due);
+        if (!due.equals(got)) {
+            fault = call + " answered " + got + ", due is " + due;
+        }
+        return due;
+    }
+
+    private void go() {
+        layGround();
+        int rounds = from(20, 120);
+        for (int round = 0; round < rounds; round++) {
+            change();
+            for (int asks = random.nextInt(3); asks > 0; asks--) {
+                ask();
+            }
+        }
+        askAll();
+    }
+
+    private void layGround() {
+        int wanted = pick(1, 2, 3, 4, 4, 5, 5, 6, 6, 6);
+        for (int i = 0; i < wanted; i++) {
+            addNode();
+        }
+        int tries = from(0, 30);
+        for (int i = 0; i < tries; i++) {
+            addLink();
+        }
+    }
+
+    private void addNode() {
+        nodes += same("node", number(1, nodeRoom)).startsWith("throws") ? 0 : 1;
+    }
+
+    private void addLink() {
+        int room = number(Math.max(1, linkRoom / 3), linkRoom);
+        links += same("link", number(0, nodes - 1), number(0, nodes - 1), room).startsWith("throws") ? 0 : 1;
+    }
+
+    private void change() {
+        switch (random.nextInt(20)) {
+            case 0: addNode(); break;
+            case 1: addLink(); break;
+            case 2:
+            case 3: same("fail", number(0, links - 1), random.nextInt(3) == 0); break;
+            case 4: same("pass", random.nextInt(8) == 0 ? number(1, 100) : number(1, 4)); break;
+            case 5: same("end", number(0, requests - 1)); break;
+            case 6:
+            case 7:
+            case 8: same("move", number(0, requests - 1), number(0, 2), number(0, nodes - 1)); break;
+            case 9: same("clear"); break;
+            case 10: addPart(); break;
+            case 11: addLine(); break;
+            default: drawUpAndPlace();
+        }
+    }
+
+    private void addPart() {
+        int anywhere = random.nextInt(3) == 0 ? number(1, 63) : 63;
+        same("part", number(1, need), anywhere);
+    }
+
+    private void addLine() {
+        same("line", number(0, 2), number(0, 2), number(1, need));
+    }
+
+    private void drawUpAndPlace() {
+        int parts = pick(1, 2, 2, 3, 3, 3);
+        for (int i = 0; i < parts; i++) {
+            addPart();
+        }
+        int lines = pick(0, 1, 2, 4, 6);
+        for (int i = 0; i < lines; i++) {
+            addLine();
+        }
+        same(pick(0, 1) == 0 ? "least" : "leastAnew");
+        int ticks = random.nextInt(4) == 0 ? number(1, 100) : number(1, 60);
+        String placed = same("place", number(0, 2), ticks);
+        if (placed.equals("-1")) {
+            same("freeing");
+            placed = same("place", number(0, 2), ticks);
+        }
+        if (placed.equals("-1") && random.nextInt(3) != 0) {
+            same("clear");
+        }
+        requests += placed.equals("-1") || placed.startsWith("throws") ? 0 : 1;
+    }
+
+    private void ask() {
+        switch (random.nextInt(10)) {
+            case 0: same("now"); break;
+            case 1: same("ofNode", number(0, nodes - 1), number(0, 1)); break;
+            case 2: same("ofLink", number(0, links - 1), number(0, 3)); break;
+            case 3: same("load", number(0, links - 1), number(-1, links - 1)); break;
+            case 4: same("told", number(0, requests - 1), number(0, 7)); break;
+            case 5: same("at", number(0, requests - 1), number(0, 2)); break;
+            case 6: same("way", number(0, requests - 1), number(0, 2), number(0, 2)); break;
+            case 7: same("least"); break;
+            case 8: same("leastAnew"); break;
+            default: same("freeing");
+        }
+    }
+
+    private void askAll() {
+        same("now");
+        for (int link = 0; link < links; link++) {
+            for (int what = 0; what < 4; what++) {
+                same("ofLink", link, what);
+            }
+        }
+        for (int node = 0; node < nodes; node++) {
+            same("ofNode", node, 0);
+            same("ofNode", node, 1);
+        }
+        for (int request = 0; request < requests; request++) {
+            for (int i = 0; i < 3; i++) {
+                same("at", request, i);
+                same("way", request, i, 0);
+                same("way", request, i, 1);
+                same("way", request, i, 2);
+            }
+            for (int what = 0; what < 8; what++) {
+                same("told", request, what);
+            }
+        }
+        for (int link = 0; link < links; link++) {
+            for (int failed = -1; failed < links; failed++) {
+                same("load", link, failed);
+            }
+        }
+    }
+}
