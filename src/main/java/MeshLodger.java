@@ -327,6 +327,7 @@ public final class MeshLodger {
     private static final class Ground {
         private final int[] nodeRooms = new int[NODES];
         private final int[] linkRooms = new int[LINKS];
+        private final int[] linkStarts = new int[LINKS];
         private final int[] linkEnds = new int[LINKS];
         private final int[][] ways = new int[NODES * NODES][WAYS];
         private final int[] wayCounts = new int[NODES * NODES];
@@ -350,7 +351,8 @@ public final class MeshLodger {
 
         int addLink(int node, int other, int room) {
             linkRooms[links] = room;
-            linkEnds[links] = 1 << node | 1 << other;
+            linkStarts[links] = node;
+            linkEnds[links] = other;
             links++;
             findWays();
             return links - 1;
@@ -358,11 +360,19 @@ public final class MeshLodger {
 
         boolean areLinked(int node, int other) {
             for (int link = 0; link < links; link++) {
-                if (linkEnds[link] == (1 << node | 1 << other)) {
+                if (beyond(link, node) == other) {
                     return true;
                 }
             }
             return false;
+        }
+
+        /** The node at the other end of a link; NONE if it has no end at this node. */
+        int beyond(int link, int node) {
+            if (linkStarts[link] == node) {
+                return linkEnds[link];
+            }
+            return linkEnds[link] == node ? linkStarts[link] : NONE;
         }
 
         void setFailed(int link, boolean fails) {
@@ -382,14 +392,12 @@ public final class MeshLodger {
         // Lower links are tried first, so the ways of each pair of nodes are found in their order.
         private static void walk(Ground ground, int start, int here, int seen, int way) {
             for (int link = 0; link < ground.links && Integer.bitCount(seen) < NODES; link++) {
-                int ends = ground.linkEnds[link];
-                int beyond = ends & ~(1 << here);
-                if (beyond == ends || (beyond & seen) != 0 || (ground.failed >> link & 1) != 0) {
+                int there = ground.beyond(link, here);
+                if (there == NONE || (seen >> there & 1) != 0 || (ground.failed >> link & 1) != 0) {
                     continue;
                 }
-                int there = Integer.numberOfTrailingZeros(beyond);
                 ground.keepWay(pairOf(start, there), way | 1 << link);
-                walk(ground, start, there, seen | beyond, way | 1 << link);
+                walk(ground, start, there, seen | 1 << there, way | 1 << link);
             }
         }
 
@@ -745,7 +753,7 @@ public final class MeshLodger {
             int count = choices.prepare(draft);
             for (int choice = 0; choice < count; choice++) {
                 if (choices.take(draft, choice) && findFloors(draft) && !isCut(floors[0])) {
-                    tryWays(this, draft, 0, 0);
+                    chooseWays(this, draft, 0, 0);
                 }
             }
             return leastCost;
@@ -784,7 +792,7 @@ public final class MeshLodger {
             return leastCost != NONE && !canBeLess;
         }
 
-        private static void tryWays(Search search, Request draft, int line, int cost) {
+        private static void chooseWays(Search search, Request draft, int line, int cost) {
             if (line >= draft.lines) {
                 search.keepLeast(draft, cost);
                 return;
@@ -799,7 +807,7 @@ public final class MeshLodger {
                 if ((way & ~open) == 0 && !search.isCut(costThen + search.floors[line + 1])) {
                     search.tried[line] = way;
                     search.books.carry(way, need);
-                    tryWays(search, draft, line + 1, costThen);
+                    chooseWays(search, draft, line + 1, costThen);
                     search.books.carry(way, -need);
                 }
             }

@@ -13,18 +13,21 @@ public final class RandomRunsTest {
     private String fault = "";
     private final int nodeRoom;
     private final int linkRoom;
-    private final int need;
+    private final int partNeed;
+    private final int lineNeed;
     private final int wrongOf;
     private int nodes;
     private int links;
+    private int parts;
     private int requests;
 
     private RandomRunsTest(long seed) {
         random = new Random(seed);
-        nodeRoom = pick(10, 25, 40, 99);
-        linkRoom = pick(8, 14, 25, 60, 99);
-        need = pick(4, 9, 14, 20);
-        wrongOf = pick(4, 12, 30, 1000);
+        nodeRoom = pick(10, 20, 30, 40, 99);
+        linkRoom = pick(8, 14, 20, 30, 99);
+        partNeed = pick(4, 9, 14, 20);
+        lineNeed = pick(4, 9, 14, 20);
+        wrongOf = pick(5, 20, 60, 1000);
     }
 
     public static void main(String[] args) {
@@ -75,7 +78,7 @@ public final class RandomRunsTest {
 
     private void go() {
         layGround();
-        int rounds = from(20, 120);
+        int rounds = from(5, 45);
         for (int round = 0; round < rounds; round++) {
             change();
             for (int asks = random.nextInt(3); asks > 0; asks--) {
@@ -86,72 +89,102 @@ public final class RandomRunsTest {
     }
 
     private void layGround() {
-        int wanted = pick(1, 2, 3, 4, 4, 5, 5, 6, 6, 6);
+        int wanted = pick(1, 3, 4, 4, 5, 5, 5, 6, 6, 6);
         for (int i = 0; i < wanted; i++) {
             addNode();
         }
-        int tries = from(0, 30);
+        int tries = pick(0, 6, 12, 20, 25, 30);
         for (int i = 0; i < tries; i++) {
             addLink();
         }
     }
 
+    private boolean isDone(String answer) {
+        return !answer.isEmpty() && !answer.startsWith("throws") && !answer.equals("-1");
+    }
+
     private void addNode() {
-        nodes += same("node", number(1, nodeRoom)).startsWith("throws") ? 0 : 1;
+        nodes += isDone(same("node", number(nodeRoom / 2, nodeRoom))) ? 1 : 0;
     }
 
     private void addLink() {
-        int room = number(Math.max(1, linkRoom / 3), linkRoom);
-        links += same("link", number(0, nodes - 1), number(0, nodes - 1), room).startsWith("throws") ? 0 : 1;
+        int node = number(0, nodes - 1);
+        int other = number(0, nodes - 1);
+        if (node != other || random.nextInt(10) == 0) {
+            links += isDone(same("link", node, other, number(Math.max(1, linkRoom / 3), linkRoom))) ? 1 : 0;
+        }
     }
 
     private void change() {
         switch (random.nextInt(20)) {
             case 0: addNode(); break;
             case 1: addLink(); break;
-            case 2:
+            case 2: same("fail", number(0, links - 1), true); break;
             case 3: same("fail", number(0, links - 1), random.nextInt(3) == 0); break;
-            case 4: same("pass", random.nextInt(8) == 0 ? number(1, 100) : number(1, 4)); break;
+            case 4: same("pass", random.nextInt(8) == 0 ? number(1, 100) : number(1, 6)); break;
             case 5: same("end", number(0, requests - 1)); break;
             case 6:
             case 7:
-            case 8: same("move", number(0, requests - 1), number(0, 2), number(0, nodes - 1)); break;
-            case 9: same("clear"); break;
+            case 8:
+            case 9: same("move", number(0, requests - 1), number(0, random.nextInt(3)), number(0, nodes - 1)); break;
             case 10: addPart(); break;
-            case 11: addLine(); break;
+            case 11: addLine(number(0, parts - 1), number(0, parts - 1)); break;
+            case 12: clear(); break;
             default: drawUpAndPlace();
         }
     }
 
-    private void addPart() {
-        int anywhere = random.nextInt(3) == 0 ? number(1, 63) : 63;
-        same("part", number(1, need), anywhere);
+    private void clear() {
+        same("clear");
+        parts = 0;
     }
 
-    private void addLine() {
-        same("line", number(0, 2), number(0, 2), number(1, need));
+    private void addPart() {
+        int nodesOf = random.nextInt(3) == 0 ? number(1, 63) : 63;
+        parts += isDone(same("part", number(1, partNeed), nodesOf)) ? 1 : 0;
+    }
+
+    private void addLine(int part, int other) {
+        same("line", part, other, number(1, lineNeed));
     }
 
     private void drawUpAndPlace() {
-        int parts = pick(1, 2, 2, 3, 3, 3);
-        for (int i = 0; i < parts; i++) {
+        if (parts > 0 && random.nextInt(4) != 0) {
+            clear();
+        }
+        int wanted = pick(1, 2, 2, 2, 3, 3, 3);
+        while (parts < wanted && calls.size() < MOST_CALLS) {
             addPart();
         }
-        int lines = pick(0, 1, 2, 4, 6);
-        for (int i = 0; i < lines; i++) {
-            addLine();
+        int turn = random.nextInt(3);
+        int lines = pick(0, 1, 1, 2, 3, 3);
+        for (int i = 0; i < lines && parts > 1; i++) {
+            boolean inOrder = random.nextBoolean();
+            int one = (turn + i) % parts;
+            int other = (turn + i + 1) % parts;
+            addLine(inOrder ? one : other, inOrder ? other : one);
         }
         same(pick(0, 1) == 0 ? "least" : "leastAnew");
+        if (!isPlaced() && random.nextInt(4) != 0) {
+            freeAndPlace();
+        }
+    }
+
+    private void freeAndPlace() {
+        String move = same("freeing");
+        if (isDone(move)) {
+            int digits = Integer.parseInt(move);
+            same("move", digits / 100, digits / 10 % 10, digits % 10);
+            isPlaced();
+        }
+    }
+
+    private boolean isPlaced() {
         int ticks = random.nextInt(4) == 0 ? number(1, 100) : number(1, 60);
-        String placed = same("place", number(0, 2), ticks);
-        if (placed.equals("-1")) {
-            same("freeing");
-            placed = same("place", number(0, 2), ticks);
-        }
-        if (placed.equals("-1") && random.nextInt(3) != 0) {
-            same("clear");
-        }
-        requests += placed.equals("-1") || placed.startsWith("throws") ? 0 : 1;
+        boolean placed = isDone(same("place", number(0, 2), ticks));
+        requests += placed ? 1 : 0;
+        parts = placed ? 0 : parts;
+        return placed;
     }
 
     private void ask() {
@@ -161,8 +194,8 @@ public final class RandomRunsTest {
             case 2: same("ofLink", number(0, links - 1), number(0, 3)); break;
             case 3: same("load", number(0, links - 1), number(-1, links - 1)); break;
             case 4: same("told", number(0, requests - 1), number(0, 7)); break;
-            case 5: same("at", number(0, requests - 1), number(0, 2)); break;
-            case 6: same("way", number(0, requests - 1), number(0, 2), number(0, 2)); break;
+            case 5: same("at", number(0, requests - 1), number(0, random.nextInt(3))); break;
+            case 6: same("way", number(0, requests - 1), number(0, random.nextInt(3)), number(0, 2)); break;
             case 7: same("least"); break;
             case 8: same("leastAnew"); break;
             default: same("freeing");
@@ -171,6 +204,9 @@ public final class RandomRunsTest {
 
     private void askAll() {
         same("now");
+        for (int request = 0; request < requests; request++) {
+            askRequest(request);
+        }
         for (int link = 0; link < links; link++) {
             for (int what = 0; what < 4; what++) {
                 same("ofLink", link, what);
@@ -180,21 +216,26 @@ public final class RandomRunsTest {
             same("ofNode", node, 0);
             same("ofNode", node, 1);
         }
-        for (int request = 0; request < requests; request++) {
-            for (int i = 0; i < 3; i++) {
-                same("at", request, i);
-                same("way", request, i, 0);
-                same("way", request, i, 1);
-                same("way", request, i, 2);
-            }
-            for (int what = 0; what < 8; what++) {
-                same("told", request, what);
-            }
-        }
         for (int link = 0; link < links; link++) {
             for (int failed = -1; failed < links; failed++) {
                 same("load", link, failed);
             }
+        }
+    }
+
+    private void askRequest(int request) {
+        for (int what = 0; what < 8; what++) {
+            same("told", request, what);
+        }
+        int partsOf = Integer.parseInt("0" + model.answer("told", request, 3));
+        int linesOf = Integer.parseInt("0" + model.answer("told", request, 4));
+        for (int part = 0; part < partsOf; part++) {
+            same("at", request, part);
+        }
+        for (int line = 0; line < linesOf; line++) {
+            same("way", request, line, 0);
+            same("way", request, line, 1);
+            same("way", request, line, 2);
         }
     }
 }
