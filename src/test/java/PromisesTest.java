@@ -1,28 +1,12 @@
-/**
- * Runs of calls for each promise, each run on a new object, with the answers worked out by hand from the document.
- * A run is written as calls with "; " between them: the name, the arguments, "=", the answer that is due.
- * Answers are numbers, "nothing" (of end), index, argument or state (the exception). The model is held to them too.
- */
+/** Runs of calls for each promise: what is ordinary, its edges, and wrong inputs. */
 public final class PromisesTest {
-    private static int runs = 0;
-    private static int wrong = 0;
+    private static final String RING = Runs.RING;
+    private static final String TWISTED = Runs.TWISTED;
+    private static final String PAIR = Runs.PAIR;
+    private static final String ENDS_0_1 = Runs.ENDS_0_1;
+    private static final String ENDS_0_2 = Runs.ENDS_0_2;
 
-    /** Nodes 0 to 3 with room 20, in a ring: links 0 (0-1), 1 (1-2), 2 (2-3), 3 (3-0), all with room 10. */
-    private static final String RING = "node 20=0; node 20=1; node 20=2; node 20=3; "
-            + "link 0 1 10=0; link 1 2 10=1; link 2 3 10=2; link 3 0 10=3; ";
-
-    /** A ring whose order of ways differs by the end that they are read from: 0 (0-1), 1 (2-3), 2 (1-2), 3 (3-0). */
-    private static final String TWISTED = "node 20=0; node 20=1; node 20=2; node 20=3; "
-            + "link 0 1 10=0; link 2 3 10=1; link 1 2 10=2; link 3 0 10=3; ";
-
-    /** Two nodes with room 99 and a link with room 50. */
-    private static final String PAIR = "node 99=0; node 99=1; link 0 1 50=0; ";
-
-    /** A draft of a part that must be at node 0 and one that must be at node 1, without a line. */
-    private static final String ENDS_0_1 = "part 1 1=0; part 1 2=1; ";
-
-    /** The same for the nodes 0 and 2. */
-    private static final String ENDS_0_2 = "part 1 1=0; part 1 4=1; ";
+    private static final Runs RUNS = new Runs();
 
     public static void main(String[] args) {
         newObject();
@@ -38,41 +22,11 @@ public final class PromisesTest {
         asking();
         leasts();
         freeing();
-        System.out.println(wrong == 0 ? runs + " written runs are as due" : wrong + " answers are not as due");
-        System.exit(wrong == 0 ? 0 : 1);
+        RUNS.end();
     }
 
     private static void run(int promise, String about, String... calls) {
-        runs++;
-        String all = String.join("", calls);
-        answers(promise, about, all, new Calls(new MeshLodger()), "the class");
-        answers(promise, about, all, new Calls(new MeshModel()), "the model");
-    }
-
-    private static void answers(int promise, String about, String calls, Calls target, String who) {
-        for (String call : calls.split("; *")) {
-            String[] sides = call.trim().split(" *= *");
-            String[] words = sides[0].split(" +");
-            Object[] arguments = new Object[words.length - 1];
-            for (int i = 1; i < words.length; i++) {
-                boolean truth = words[i].equals("true") || words[i].equals("false");
-                arguments[i - 1] = truth ? (Object) Boolean.valueOf(words[i]) : (Object) Integer.valueOf(words[i]);
-            }
-            String got = target.answer(words[0], arguments);
-            if (!got.equals(written(sides[1]))) {
-                wrong++;
-                System.out.println("promise " + promise + ", " + about + ": " + who + " answered " + got + " to " + call);
-            }
-        }
-    }
-
-    private static String written(String due) {
-        switch (due) {
-            case "index": return "throws.IndexOutOfBoundsException";
-            case "argument": return "throws.IllegalArgumentException";
-            case "state": return "throws.IllegalStateException";
-            default: return due;
-        }
+        RUNS.run("promise " + promise + ", " + about, calls);
     }
 
     private static void newObject() {

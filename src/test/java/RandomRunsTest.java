@@ -207,19 +207,37 @@ public final class RandomRunsTest {
         for (int request = 0; request < requests; request++) {
             askRequest(request);
         }
-        for (int link = 0; link < links; link++) {
-            for (int what = 0; what < 4; what++) {
-                same("ofLink", link, what);
-            }
-        }
         for (int node = 0; node < nodes; node++) {
-            same("ofNode", node, 0);
+            within(valueOf(same("ofNode", node, 0)), 99, "node " + node);
             same("ofNode", node, 1);
         }
         for (int link = 0; link < links; link++) {
-            for (int failed = -1; failed < links; failed++) {
-                same("load", link, failed);
-            }
+            askLink(link);
+        }
+    }
+
+    private void askLink(int link) {
+        int room = 0;
+        for (int what = 0; what < 3; what++) {
+            int answer = valueOf(same("ofLink", link, what));
+            within(answer, 99, "link " + link);
+            room += answer;
+        }
+        same("ofLink", link, 3);
+        for (int failed = -1; failed < links; failed++) {
+            within(valueOf(same("load", link, failed)), room, "link " + link + " behind " + failed);
+        }
+    }
+
+    /** 0 if it was not asked any more, or threw. */
+    private static int valueOf(String answer) {
+        return answer.isEmpty() || answer.startsWith("throws") ? 0 : Integer.parseInt(answer);
+    }
+
+    // Nothing is over its room, in use or behind any single failure.
+    private void within(int answer, int most, String what) {
+        if (fault.isEmpty() && (answer < 0 || answer > most)) {
+            fault = what + " is over its room: " + answer;
         }
     }
 
